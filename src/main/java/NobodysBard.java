@@ -648,6 +648,8 @@ public final class NobodysBard {
         static final int MOST = 12;
         static final int SIDE = 4;
         static final int TIMES = 12;
+        // Each code takes at least two bytes of the text.
+        static final int MOST_CODES = TAPE / 2;
 
         int rules;
         int codes;
@@ -655,8 +657,8 @@ public final class NobodysBard {
         final long[] right = new long[MOST];
         final int[] testFrom = new int[MOST];
         final int[] testTo = new int[MOST];
-        final int[] code = new int[TAPE];
-        final int[] number = new int[TAPE];
+        final int[] code = new int[MOST_CODES];
+        final int[] number = new int[MOST_CODES];
 
         void copy(Fashion other) {
             rules = other.rules;
@@ -665,8 +667,8 @@ public final class NobodysBard {
             System.arraycopy(other.right, 0, right, 0, MOST);
             System.arraycopy(other.testFrom, 0, testFrom, 0, MOST);
             System.arraycopy(other.testTo, 0, testTo, 0, MOST);
-            System.arraycopy(other.code, 0, code, 0, TAPE);
-            System.arraycopy(other.number, 0, number, 0, TAPE);
+            System.arraycopy(other.code, 0, code, 0, MOST_CODES);
+            System.arraycopy(other.number, 0, number, 0, MOST_CODES);
         }
 
         void clear() {
@@ -675,7 +677,7 @@ public final class NobodysBard {
         }
 
         void emit(int itsCode, int itsNumber) {
-            if (codes >= TAPE) return;
+            if (codes >= MOST_CODES) return;
             code[codes] = itsCode;
             number[codes] = itsNumber;
             codes++;
@@ -729,7 +731,7 @@ public final class NobodysBard {
             if (testFrom[rule] >= testTo[rule]) return true;
             // A pile of bits, the last one lowest: TESTS are at most 9 deep and leave two bits open at each depth.
             long bits = 0;
-            for (int i = testFrom[rule]; i < testTo[rule] && i < TAPE; i++) {
+            for (int i = testFrom[rule]; i < testTo[rule] && i < MOST_CODES; i++) {
                 bits = taken(bits, i, line, tale);
             }
             return (bits & 1) == 1;
