@@ -233,6 +233,12 @@ public final class AnswersTest {
         x.free(0, 0);
         // 1 | 4 7 14 by days 9, 10, 11, 13, with 1 2 3 5 days
         Due.is("36 with one far before", x.rate(), 3);
+        NobodysBard z = new NobodysBard();
+        z.pages(0, 5);
+        z.pages(9999, 1);
+        z.free(0, 0);
+        z.free(9999, 9999);
+        Due.is("36 the first day and the last one", z.rate(), 5);
         NobodysBard y = new NobodysBard();
         y.free(5, 5);
         y.pages(5, 99);

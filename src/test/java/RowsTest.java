@@ -149,14 +149,14 @@ public final class RowsTest {
 
     private static void fillAll(NobodysBard x) {
         x.open(0, 1, 1, 100);
-        x.line(0, 0, 0, Due.line(1, 1));
+        x.line(0, 0, 0, Due.line(1, 1, 255, 254));
         x.open(1, 2, 0, 0);
         x.line(1, 0, 0, Due.line(2, 2));
         x.line(2, 0, 3, Due.line(3, 3));
         x.print(4000);
         x.bounds(60, 40);
         Due.text(x, 0, "9 become 8;");
-        Due.text(x, 1, "lose 0;say 4 for 1;");
+        Due.text(x, 1, "lose 0;say 4 for 1;say 3 for 255;say 2 for 254;");
         x.year(7, 77);
         x.version(Due.line(5), Due.line(6), 10, 2);
         x.answer(4, 4500, 3, 1, 0, Due.line(3, 3));
@@ -180,13 +180,38 @@ public final class RowsTest {
         x.says(0, 2, 3);
     }
 
+    /** Another filling, with as many of all: an IMAGE that only counts is not enough. */
+    private static void fillOtherwise(NobodysBard x) {
+        x.restore(1);
+        x.open(0, 9, 9, 9999);
+        x.line(0, 0, 0, Due.line(9, 9, 9));
+        x.open(1, 0, 0, 0);
+        x.line(1, 0, 0, Due.line(8, 8));
+        x.line(2, 0, 9, Due.line(3, 4));
+        x.print(9000);
+        x.bounds(7, 6);
+        Due.text(x, 0, "9 become 7 if tale 3 and not long 3;");
+        Due.text(x, 1, "smooth 99;say 5 for 255;");
+        x.year(7, 78);
+        x.year(255, 79);
+        x.version(Due.line(4), Due.line(4), 9999, 3);
+        x.answer(5, 1, 9, 0, 2, 0);
+        x.paid(9999, 999);
+        x.pages(1, 99);
+        x.free(0, 0);
+        x.world(99);
+        x.world(98);
+        x.says(0, 0, 1);
+        x.says(1, 15, 1);
+    }
+
     private static void isAsFilled(String when, NobodysBard x) {
-        int[] want = {1, 1, 1, 1, 1, 1, 1, 1, 2, 1, 2};
+        int[] want = {1, 1, 1, 1, 1, 1, 1, 1, 2, 1, 4};
         for (int what = 0; what < want.length; what++) Due.is(when + " count(" + what + ")", x.count(what), want[what]);
         Due.is(when + " day", x.count(12), 4000);
         Due.is(when + " lines", x.count(100), 1);
         Due.is(when + " lines", x.count(200), 1);
-        Due.is(when + " words", x.words(0, 0, 0), Due.line(1, 1));
+        Due.is(when + " words", x.words(0, 0, 0), Due.line(1, 1, 255, 254));
         Due.is(when + " words", x.words(1, 0, 0), Due.line(2, 2));
         Due.is(when + " words", x.words(2, 0, 0), Due.line(3, 3));
         Due.is(when + " words", x.words(4, 0, 0), Due.line(6));
@@ -196,7 +221,23 @@ public final class RowsTest {
         Due.is(when + " pages", x.more(0, 2), 13);
         Due.is(when + " rate", x.rate(), 2);
         Due.is(when + " ask", x.ask(3, 0), 11);
+        Due.is(when + " first", x.ask(3, 1), 2);
+        Due.is(when + " what a glen says", x.says(1, 15, 0), 0);
+        Due.is(when + " what a glen says", x.says(0, 0, 0), 0);
         Due.is(when + " year", x.year(7, 77), 77);
+        Due.is(when + " year", x.year(255, 0), 0);
+        Due.is(when + " which", x.which(0), 2);
+        Due.is(when + " glen", x.glen(4, 1), 1);
+        Due.is(when + " second question", x.glen(4, 2), 0);
+        Due.is(when + " hope", x.backOdds(0, 0), 1);
+        x.print(4501);
+        Due.is(when + " hope", x.parted(1, false), 7);
+        x.print(4000);
+        Due.is(when + " the song is early", x.late(0, 0), -5);
+        Due.is(when + " its tale", x.whose(0, 0), 5);
+        Due.is(when + " the book's land", x.chance(1, 1), 1);
+        Due.is(when + " law", x.told(0, 0, 0, 5), 1);
+        Due.is(when + " law", x.words(0, 1, 0), Due.line(4, 4, 3, 2));
         x.line(0, 0, 0, Due.line(4, 4, 4));
         x.line(2, 0, 0, Due.line(4, 4, 4, 5, 6));
         Due.is(when + " high", x.whose(1, 0), 1);
@@ -222,6 +263,9 @@ public final class RowsTest {
         changeAll(x);
         Due.is("45 restored again", x.restore(0), 0);
         isAsFilled("45 again", x);
+        fillOtherwise(x);
+        Due.is("45 restored from another filling", x.restore(0), 0);
+        isAsFilled("45 from another", x);
         Due.is("45 the first one", x.restore(1), 0);
         for (int what = 0; what <= 11; what++) Due.is("45 as at first " + what, x.count(what), 0);
         Due.is("45 day", x.count(12), 5000);
@@ -295,7 +339,7 @@ public final class RowsTest {
         fillAll(x);
         x.line(0, 1, 0, Due.line(1));
         x.line(1, 2, 0, Due.line(1));
-        int[] want = {3, 3, 3, 3, 3, 3, 3, 3, 6, 1, 2, 0, 4000};
+        int[] want = {3, 3, 3, 3, 3, 3, 3, 3, 6, 1, 4, 0, 4000};
         for (int what = 0; what < want.length; what++) Due.is("47 count(" + what + ")", x.count(what), want[what]);
         int[] songs = {3, 1, 0, -1};
         int[] books = {3, 0, 1, -1};

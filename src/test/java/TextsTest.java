@@ -9,6 +9,7 @@ public final class TextsTest {
         tests();
         told();
         toldByDraws();
+        toldWithoutChances();
         Due.end("TextsTest");
     }
 
@@ -234,6 +235,24 @@ public final class TextsTest {
         x = song("", "lose 99;lose 0;");
         x.told(0, 0, 0, 0);
         Due.is("12 a later lose counts", x.count(101), 3);
+    }
+
+    /** Without lose, move, smooth no DRAW is below their chance, not even a DRAW of 0. */
+    private static void toldWithoutChances() {
+        NobodysBard x = null;
+        for (int seed = 0; seed < 500; seed++) {
+            // An object is used for 512 calls.
+            if (seed % 50 == 0) {
+                x = song("1 become 9;3 become 9;5 become 9;", "lose 50;smooth 50;move 50;say 1 for 2;");
+                Due.text(x, 1, "say 6 for 255;say 7 for 254;");
+                x.line(0, 0, 0, Due.line(255, 254));
+                x.image(0);
+            }
+            Due.is("12 told by seed " + seed, x.told(0, 1, 1, seed), 1);
+            for (int i = 0; i < 3; i++) Due.is("12 as it was by seed " + seed, x.words(0, 1, i), x.words(0, 0, i));
+            Due.is("12 the last words said by seed " + seed, x.words(0, 1, 3), Due.line(6, 7));
+            x.restore(0);
+        }
     }
 
     /** Draws worked out here once more, to see which LINE each of them is for. */
