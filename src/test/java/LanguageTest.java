@@ -1,3 +1,5 @@
+import java.io.PrintWriter;
+import java.io.StringWriter;
 import java.lang.reflect.Constructor;
 import java.lang.reflect.Field;
 import java.lang.reflect.Method;
@@ -6,10 +8,14 @@ import java.nio.file.Files;
 import java.nio.file.Path;
 import java.util.ArrayList;
 import java.util.List;
+import java.util.Map;
+import java.util.Optional;
 import java.util.Set;
+import java.util.TreeMap;
 import java.util.TreeSet;
 import java.util.regex.Matcher;
 import java.util.regex.Pattern;
+import java.util.spi.ToolProvider;
 
 /** Rules of ../shared/LANGUAGE.md that can be seen in the text and in the compiled classes, and the document's face. */
 public final class LanguageTest {
@@ -27,6 +33,7 @@ public final class LanguageTest {
         face();
         classes();
         text();
+        calls();
         Due.end("LanguageTest");
     }
 
@@ -115,5 +122,66 @@ public final class LanguageTest {
             while (!lines[end].equals(m.group(1) + "}")) end++;
             rule(11, lines[i].trim() + " has " + (end - i + 1) + " lines", end - i < 60);
         }
+    }
+
+    /** Which method calls which, as javap shows it: name and number of parameters. */
+    private static void calls() throws Exception {
+        Optional<ToolProvider> javap = ToolProvider.findFirst("javap");
+        if (javap.isEmpty()) return;
+        Path where = Path.of(NobodysBard.class.getProtectionDomain().getCodeSource().getLocation().toURI());
+        Map<String, Set<String>> calls = new TreeMap<>();
+        List<Class<?>> all = new ArrayList<>(List.of(NobodysBard.class.getDeclaredClasses()));
+        all.add(NobodysBard.class);
+        for (Class<?> c : all) {
+            StringWriter shown = new StringWriter();
+            PrintWriter out = new PrintWriter(shown);
+            javap.get().run(out, out, "-p", "-c", where.resolve(c.getName() + ".class").toString());
+            callsOf(c.getName(), shown.toString(), calls);
+        }
+        rule(11, "methods seen: " + calls.size(), calls.size() > 100);
+        Set<String> selves = new TreeSet<>();
+        int deepest = 0;
+        for (String method : calls.keySet()) {
+            if (reached(method, calls).contains(method)) selves.add(method);
+            deepest = Math.max(deepest, depth(method, calls, new TreeSet<>()));
+        }
+        rule(8, "only what reads a TEST calls itself, not " + selves, selves.equals(Set.of("NobodysBard$Reader.readFact/1", "NobodysBard$Reader.readTest/1")));
+        rule(11, "calls go " + deepest + " deep", deepest > 3 && deepest <= 8);
+    }
+
+    private static void callsOf(String owner, String shown, Map<String, Set<String>> calls) {
+        Pattern head = Pattern.compile("  (?! ).*?([\\w$]+)\\((.*)\\);");
+        Pattern call = Pattern.compile("// Method (?:([\\w$]+)\\.)?(\\w+):\\((.*)\\)");
+        Set<String> its = new TreeSet<>();
+        for (String line : shown.split("\\R")) {
+            Matcher h = head.matcher(line);
+            if (h.matches()) {
+                int parameters = h.group(2).isEmpty() ? 0 : h.group(2).split(",").length;
+                its = calls.computeIfAbsent(owner + "." + h.group(1) + "/" + parameters, k -> new TreeSet<>());
+            }
+            Matcher c = call.matcher(line);
+            if (!c.find()) continue;
+            int parameters = c.group(3).replaceAll("\\[", "").replaceAll("L[^;]*;", "I").length();
+            its.add((c.group(1) == null ? owner : c.group(1)) + "." + c.group(2) + "/" + parameters);
+        }
+    }
+
+    private static Set<String> reached(String from, Map<String, Set<String>> calls) {
+        Set<String> reached = new TreeSet<>();
+        List<String> next = new ArrayList<>(List.of(from));
+        while (!next.isEmpty()) {
+            for (String method : calls.getOrDefault(next.remove(next.size() - 1), Set.of())) {
+                if (reached.add(method)) next.add(method);
+            }
+        }
+        return reached;
+    }
+
+    private static int depth(String method, Map<String, Set<String>> calls, Set<String> open) {
+        if (!calls.containsKey(method) || !open.add(method)) return 0;
+        int deepest = 0;
+        for (String next : calls.get(method)) deepest = Math.max(deepest, depth(next, calls, open));
+        open.remove(method);
+        return deepest + 1;
     }
 }
