@@ -449,6 +449,12 @@ public final class TermsTwoTest {
             if (at > 0) want[0] = 2;
             smooth("1 become 2 if has 255;", 0, Due.line(line), Due.line(want));
         }
+        // what is behind a 0 is neither a WORD that the LINE has nor one that makes it longer
+        smooth("1 become 2 if has 255;", 0, Due.line(1, 9, 0, 255), Due.line(1, 9));
+        smooth("1 become 2 if long 3;", 0, Due.line(1, 9, 0, 1), Due.line(1, 9));
+        smooth("1 become 2 if not has 255 and not long 3;", 0, Due.line(1, 9, 0, 255, 255), Due.line(2, 9));
+        smooth("9 255 become 2;", 0, Due.line(1, 9, 0, 255), Due.line(1, 9));
+        smooth("9 become 3 4 5 6;", 0, Due.line(1, 9, 0, 2, 2, 2, 2, 2), Due.line(1, 3, 4, 5, 6));
         // of the LINE as it is by then, not as it was told
         smooth("1 become 2 if has 1;3 become 4 if has 1;", 0, Due.line(1, 3), Due.line(2, 3));
         smooth("3 3 become 3;1 become 2 if long 3;", 0, Due.line(1, 3, 3), Due.line(1, 3));
