@@ -60,6 +60,14 @@ public final class TermsTwoTest {
         fault(1, " ".repeat(399) + "a", 2, 399);
         fault(1, " ".repeat(392) + "lose 100", 3, 397);
         fault(1, "lose" + " ".repeat(396), 2, 400);
+        // a TOKEN that ends with the last byte is that TOKEN
+        fault(1, " ".repeat(396) + "lose", 2, 400);
+        fault(1, " ".repeat(390) + "say 1  for", 2, 400);
+        fault(0, " ".repeat(391) + "11 become", 2, 400);
+        fault(0, " ".repeat(397) + "255", 2, 400);
+        fault(0, "1 become 2 if" + " ".repeat(384) + "not", 2, 400);
+        fault(0, "1 become 2 if has 1" + " ".repeat(379) + "or", 2, 400);
+        fault(0, "1 become 2" + " ".repeat(388) + "if", 2, 400);
         // as many TOKENS as there can be
         for (String sign : new String[] {";", "(", ")"}) fault(0, sign.repeat(400), 2, 0);
         fault(1, "!".repeat(400), 1, 0);
