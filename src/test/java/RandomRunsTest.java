@@ -9,7 +9,10 @@ import java.util.TreeMap;
 /** Long runs of calls by fixed seeds: the class and the Model have to answer alike, call for call. */
 public final class RandomRunsTest {
     private static final int RUNS = 400;
+    private static final int FULL_RUNS = 3;
     private static final int CALLS = 512;
+    // A text of 400 bytes: an empty text ahead of it, twenty times feed, text, and twice fault.
+    private static final int MOST_AT_ONCE = 24;
     private static final List<Method> CALLED = new ArrayList<>();
     private static final Map<String, Method> WITNESS = new TreeMap<>();
     private static final Map<String, Integer> ASKED = new TreeMap<>();
@@ -20,6 +23,7 @@ public final class RandomRunsTest {
     private final Model model = new Model();
     private final int vocabulary;
     private final int mood;
+    private int calls;
 
     private RandomRunsTest(long seed) {
         random = new Random(seed);
@@ -37,6 +41,7 @@ public final class RandomRunsTest {
         }
         Due.is("methods", CALLED.size(), 46);
         for (int seed = 0; seed < RUNS; seed++) new RandomRunsTest(seed).run(seed);
+        for (int seed = RUNS; seed < RUNS + FULL_RUNS; seed++) new RandomRunsTest(seed).fullRun(seed);
         for (Method m : CALLED) {
             if (ASKED.getOrDefault(m.getName(), 0) < 200) Due.is(m.getName() + " was asked too seldom", 0, 1);
         }
@@ -62,9 +67,10 @@ public final class RandomRunsTest {
 
     private void run(int seed) throws Exception {
         if (seed % 3 > 0 && !begun(seed)) return;
-        for (int call = 0; call < CALLS - 60; call++) {
+        while (calls < CALLS - MOST_AT_ONCE) {
             if (!one(seed)) return;
         }
+        Due.is("run " + seed + " has no more calls than are promised", calls <= CALLS ? 1 : 0, 1);
     }
 
     /** Most runs begin with some SONGS, BOOKS and LINES, so that there is something to look at. */
@@ -79,9 +85,49 @@ public final class RandomRunsTest {
         return true;
     }
 
+    /** As many SONGS, BOOKS, LINES and ANSWERS as can be, and then what looks at most of them: 512 calls at the most. */
+    private void fullRun(int seed) throws Exception {
+        boolean agree = readFull(seed) && both(seed, "open", 0, 1, 2, 4999);
+        for (int i = 0; i < 12 && agree; i++) agree = both(seed, "line", 0, 0, 0, eight());
+        for (int i = 1; i < 40 && agree; i++) agree = both(seed, "told", random.nextInt(i), i % 16, 4998 + random.nextInt(4), random.nextInt());
+        for (int i = 0; i < 12 && agree; i++) agree = both(seed, "open", 1, i % 6, 0, 0);
+        for (int i = 0; i < 144 && agree; i++) agree = both(seed, "line", 1, i / 12, 0, eight());
+        for (int i = 0; i < 60 && agree; i++) {
+            agree = both(seed, "line", 2, 0, i % 3, eight()) && both(seed, "answer", i % 16, 4999 + i % 4, i % 10, i % 3, 1, eight());
+        }
+        agree = agree && both(seed, "bounds", 70 + 10 * (seed % 3), 40);
+        String[] asked = {"share", "span", "adds", "added", "chance", "odds", "most", "matches", "parted", "muddled", "glen", "late", "say", "whose", "told"};
+        for (int i = 0; i < 60 && agree; i++) agree = one(seed, asked[i % asked.length]);
+        Due.is("run " + seed + " has no more calls than are promised", calls <= CALLS ? 1 : 0, 1);
+        Due.is("run " + seed + " is full", model.count(0) + model.count(1) + model.count(2) + model.count(3), 40 + 12 + 60 + 60);
+    }
+
+    private boolean readFull(int seed) throws Exception {
+        String fashion = "9 10 become 11;10 9 become 12 if tale 1;8 become 9 if not has 13 and long 8;";
+        for (int at = 0; at < fashion.length(); at += 20) {
+            if (!both(seed, "feed", fed(fashion, at))) return false;
+        }
+        String law = "smooth 50;move 30;say 13 for 14;      ";
+        return both(seed, "text", 0, fashion.length()) && both(seed, "feed", fed(law, 0)) && both(seed, "feed", fed(law, 20))
+            && both(seed, "text", 1, law.length());
+    }
+
+    private static Object[] fed(String text, int at) {
+        Object[] five = new Object[5];
+        for (int i = 0; i < 5; i++) five[i] = four(text, at + 4 * i);
+        return five;
+    }
+
+    private long eight() {
+        return random.nextLong() & 0x0707070707070707L | 0x0808080808080808L;
+    }
+
     /** False, if the two don't agree: what comes behind would tell nothing new. */
     private boolean one(int seed) throws Exception {
-        String name = pick();
+        return one(seed, pick());
+    }
+
+    private boolean one(int seed, String name) throws Exception {
         // what is fed at random spoils the texts that come behind it
         if (name.equals("feed") && random.nextInt(5) > 0) return true;
         if (name.equals("text") && random.nextInt(10) > 0) return readText(seed);
@@ -96,6 +142,7 @@ public final class RandomRunsTest {
         Method method = CALLED.stream().filter(m -> m.getName().equals(name)).findFirst().orElseThrow();
         long got = ((Number) method.invoke(bard, arguments)).longValue();
         long want = ((Number) WITNESS.get(name).invoke(model, arguments)).longValue();
+        calls++;
         ASKED.merge(name, 1, Integer::sum);
         if (Math.abs(want) < 10) ANSWERED.computeIfAbsent(name, k -> new TreeMap<>()).merge(want, 1, Integer::sum);
         Due.is("run " + seed + ": " + name + List.of(arguments), got, want);
@@ -124,9 +171,7 @@ public final class RandomRunsTest {
         if (there + text.length() > 380 && !both(seed, "text", 0, 0)) return false;
         boolean empty = model.count(11) == 0;
         for (int at = 0; at < text.length(); at += 20) {
-            Object[] five = new Object[5];
-            for (int i = 0; i < 5; i++) five[i] = four(text, at + 4 * i);
-            if (!both(seed, "feed", five)) return false;
+            if (!both(seed, "feed", fed(text, at))) return false;
         }
         return both(seed, "text", what, empty ? text.length() : (int) model.count(11))
             && both(seed, "fault", 0) && both(seed, "fault", 1);

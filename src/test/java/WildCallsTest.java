@@ -1,18 +1,21 @@
 import java.lang.management.ManagementFactory;
 import java.util.Random;
 
-/** Calls with any numbers at all: none throws, none makes an object, and a full object answers soon. */
+/** Calls with any numbers at all, and texts without sense: none throws, and no call makes an object. */
 public final class WildCallsTest {
     private static final int[] ODD = {Integer.MIN_VALUE, Integer.MIN_VALUE + 1, -65536, -256, -100, -12, -6, -5, -3, -2, -1, 0, 1, 2, 3, 4, 5,
         7, 8, 9, 10, 11, 12, 15, 16, 19, 20, 39, 40, 59, 60, 61, 99, 100, 101, 111, 139, 140, 199, 200, 211, 212, 255, 256, 400, 999, 1000,
         4999, 5000, 5001, 9999, 10000, 65536, Integer.MAX_VALUE - 1, Integer.MAX_VALUE};
+
+    private static final int TURNS = 8;
+    private static final int OBJECT = 100_000;
+    private static final long MEASURING = leastMeasured() + 40;
 
     private static Random random;
 
     public static void main(String[] args) {
         for (int seed = 0; seed < 3000; seed++) wild(seed);
         garbage();
-        fullOne();
         Due.end("WildCallsTest");
     }
 
@@ -34,25 +37,44 @@ public final class WildCallsTest {
         return ((com.sun.management.ThreadMXBean) ManagementFactory.getThreadMXBean()).getThreadAllocatedBytes(Thread.currentThread().getId());
     }
 
+    private static long leastMeasured() {
+        long least = Long.MAX_VALUE;
+        for (int turn = 0; turn < TURNS; turn++) {
+            long before = allocated();
+            least = Math.min(least, allocated() - before);
+        }
+        return least;
+    }
+
+    /** What the machine makes for itself comes at some turns, what a call makes at each: so the least of some turns counts. */
     private static void wild(int seed) {
-        random = new Random(seed);
-        int which = -1;
-        try {
+        long ofCalls = Long.MAX_VALUE;
+        long ofObject = Long.MAX_VALUE;
+        for (int turn = 0; turn < TURNS && (ofCalls >= MEASURING || ofObject >= OBJECT); turn++) {
+            random = new Random(seed);
             long before = allocated();
             NobodysBard x = new NobodysBard();
             long made = allocated();
+            if (!calls(seed, x)) return;
+            ofCalls = Math.min(ofCalls, allocated() - made);
+            ofObject = Math.min(ofObject, made - before);
+        }
+        Due.is("wild run " + seed + ": bytes in 512 calls " + ofCalls, ofCalls < MEASURING ? 1 : 0, 1);
+        Due.is("wild run " + seed + ": bytes of an object " + ofObject, ofObject < OBJECT ? 1 : 0, 1);
+    }
+
+    private static boolean calls(int seed, NobodysBard x) {
+        int which = -1;
+        try {
             for (int i = 0; i < 512; i++) {
                 which = random.nextInt(46);
                 call(x, which, words(), words());
             }
-            long after = allocated();
-            // The first runs load classes; what they take is the machine's.
-            if (seed < 10) return;
-            Due.is("wild run " + seed + ": bytes in 512 calls " + (after - made), after - made < 2000 ? 1 : 0, 1);
-            Due.is("wild run " + seed + ": bytes of an object " + (made - before), made - before < 100_000 ? 1 : 0, 1);
+            return true;
         } catch (RuntimeException | StackOverflowError thrown) {
             thrown.printStackTrace(System.out);
             Due.is("wild run " + seed + ", method " + which + " threw", 1, 0);
+            return false;
         }
     }
 
@@ -132,37 +154,5 @@ public final class WildCallsTest {
         Due.is("deep", Due.text(x, 0, deep), 1);
         Due.is("deep holds", x.smoothed(Due.line(1), 0), Due.line(2));
         Due.is("deep doesn't hold", x.smoothed(Due.line(5), 0), Due.line(5));
-    }
-
-    /** As much as can be of all, and no two LINES alike. */
-    private static void fullOne() {
-        NobodysBard x = new NobodysBard();
-        StringBuilder fashion = new StringBuilder();
-        for (int i = 0; i < 12; i++) fashion.append(i % 7 + 1).append(" become ").append((i + 1) % 7 + 1).append(" if not has 99;");
-        Due.text(x, 0, fashion.toString());
-        random = new Random(5);
-        for (int g = 0; g < 40; g++) {
-            x.open(0, g % 10, 1, 1);
-            for (int i = 0; i < 12; i++) x.line(0, g, 0, eight());
-        }
-        for (int g = 0; g < 12; g++) {
-            x.open(1, g % 6, 1, 1);
-            for (int i = 0; i < 12; i++) x.line(1, g, 0, eight());
-        }
-        for (int i = 0; i < 60; i++) {
-            x.line(2, 0, i % 10, eight());
-            x.answer(1, 6000, 3, 1, 1, eight());
-        }
-        x.bounds(100, 100);
-        long from = System.nanoTime();
-        long sum = 0;
-        for (int i = 0; i < 20; i++) sum += x.share(5, 0) + x.adds(3, 4) + x.odds(60, 0) + x.most(50, 2) + x.parted(0, true);
-        long millis = (System.nanoTime() - from) / 1_000_000;
-        Due.is("a hundred calls on a full object took " + millis + " ms, sum " + sum, millis < 60_000 ? 1 : 0, 1);
-        System.out.println("a hundred calls on a full object took " + millis + " ms");
-    }
-
-    private static long eight() {
-        return random.nextLong() & 0x0707070707070707L | 0x0808080808080808L;
     }
 }
